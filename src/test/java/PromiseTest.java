@@ -320,6 +320,9 @@ public final class PromiseTest {
         due("law(0), the one ahead", x.law(0, 0, 0, 0), 2);
         due("law(1), of none", x.law(1, 7, 0, 0), 7);
         due("told(1)", x.told(1), 2);
+        for (int i = 0; i < 70; i++) texts(x, 0, "1");
+        due("text(0) of the last", texts(x, 0, "2"), 1);
+        due("law(0) of the last", x.law(0, 0, 0, 0), 2);
         String[] good = {
             "s", "d", "f", "0", "9999", "0000", "s+d-f", "s*d/f%2", "s<d", "s=d&d>f|f", "!s", "!!!!!s", "(((((s)))))",
             "!(!(!s))", "(!!!!s)", "!s*!d", "((s))<((d))", "(s<d)<f", "!!!!!s+!!!!!1", "!!!!(s)+!(!!!f)"};
@@ -378,6 +381,8 @@ public final class PromiseTest {
         worth("w=h", 2, 2, 0, 1);
         worth("w=h", 2, 3, 0, 0);
         worth("1+1=2&3>2+0", 0, 0, 0, 1);
+        worth("(w|h)&2", 0, 3, 0, 1);
+        worth("((w&h)|(w<h))*7", 0, 3, 0, 7);
         worth("(3>2)+(2>1)*5", 0, 0, 0, 6);
         worth("0012", 0, 0, 0, 12);
         worth("9999-9950", 0, 0, 0, 49);
@@ -652,6 +657,10 @@ public final class PromiseTest {
         due("way(1, 1), a WAY that is", x.way(1, 1), 2);
         due("far(2, 8)", x.far(2, 8), NONE);
         due("count(2)", x.count(2), 0);
+        CrumbsHome y = row();
+        y.bit(0, 0, 9);
+        due("way(2, 0), over one that was", y.way(2, 0), 8);
+        due("way(2, 1), over one that was", y.way(2, 1), 1);
         int[][] wrong = {{-1, 0}, {31, 0}, {0, -1}, {0, 2}};
         for (int[] w : wrong) due("way", x.way(w[0], w[1]), BEYOND);
         for (int p = 0; p < 10; p++) {
@@ -951,6 +960,7 @@ public final class PromiseTest {
         feeds(x, "4444");
         x.untell(0);
         x.check();
+        for (int i = 0; i < 3; i++) x.tell(9);
         x.sheet(2, 8, 1);
         x.voice(0, 0, 0);
         x.far(1, 2);
