@@ -561,22 +561,27 @@ public final class CrumbsHome {
         if (k < 0 || deep > MOST_DEEP) return 0;
         int body = BODIES[k * VOICES + voice];
         if (begins < MOST_TRACE) begun[begins++] = body;
+        return sayBody(body, bit, ABOVE[k], x, deep + 1);
+    }
+
+    /** What a BODY says of one of BITS; above is the KIND above that whose BODY it is. */
+    private int sayBody(int body, int bit, int above, int x, int deep) {
         int own = now.harvest.kind[bit];
         int m = now.harvest.m[bit];
         switch (body) {
             case 10: return x + bit;
-            case 11: return say(bit, WALKS, own, x, deep + 1) * 2;
-            case 12: return say(bit, WARMS, own, x, deep + 1) - m;
+            case 11: return say(bit, WALKS, own, x, deep) * 2;
+            case 12: return say(bit, WARMS, own, x, deep) - m;
             case 13: return partsOf(x, m - bit);
-            case 20: return say(bit, WALKS, ABOVE[k], x, deep + 1) - 4;
-            case 21: return say(bit, PARTS, ABOVE[k], x, deep + 1) + say(bit, WARMS, own, 1, deep + 1);
-            case 30: return 0 - say(bit, WARMS, ABOVE[k], x, deep + 1);
-            case 40: return say(bit, SPROUTS, ABOVE[k], x / 2, deep + 1);
-            case 50: return say(bit, WALKS, ABOVE[k], x, deep + 1) * 3;
-            case 51: return say(bit, SPROUTS, ABOVE[k], x, deep + 1) ^ bit;
-            case 60: return say(bit, WARMS, ABOVE[k], x + 1, deep + 1);
+            case 20: return say(bit, WALKS, above, x, deep) - 4;
+            case 21: return say(bit, PARTS, above, x, deep) + say(bit, WARMS, own, 1, deep);
+            case 30: return 0 - say(bit, WARMS, above, x, deep);
+            case 40: return say(bit, SPROUTS, above, x / 2, deep);
+            case 50: return say(bit, WALKS, above, x, deep) * 3;
+            case 51: return say(bit, SPROUTS, above, x, deep) ^ bit;
+            case 60: return say(bit, WARMS, above, x + 1, deep);
             case 70: return 9;
-            case 71: return say(bit, WARMS, ABOVE[k], x, deep + 1) + m;
+            case 71: return say(bit, WARMS, above, x, deep) + m;
             default: return 0;
         }
     }
@@ -908,10 +913,15 @@ public final class CrumbsHome {
         }
 
         private void readRank(int rank, int open) {
-            if (rank >= RANKS) {
+            if (rank < RANKS) {
+                readJoined(rank, open);
+            } else {
                 readOne(open);
-                return;
             }
+        }
+
+        /** Parts of the next rank, and the signs of this one between them. */
+        private void readJoined(int rank, int open) {
             readRank(rank + 1, open);
             String signs = signsOf(rank);
             int most = rank == COMPARING ? 1 : MOST_TAPE;

@@ -223,10 +223,12 @@ public final class LanguageTest {
     private static void askCalls() {
         Set<String> recursions = new TreeSet<>();
         for (String name : calls.keySet()) if (reaches(name, name, new HashSet<>())) recursions.add(name);
-        Set<String> known = Set.of("CrumbsHome.say", "CrumbsHome.Reader.readRank", "CrumbsHome.Reader.readOne", "CrumbsHome.Reader.readOpened");
+        Set<String> known = Set.of("CrumbsHome.say", "CrumbsHome.sayBody", "CrumbsHome.Reader.readRank",
+            "CrumbsHome.Reader.readJoined", "CrumbsHome.Reader.readOne", "CrumbsHome.Reader.readOpened");
         ask(recursions.equals(known), "8: calls that call themselves: " + recursions);
         for (String name : calls.keySet()) {
             int deep = depth(name, new ArrayList<>());
+            ask(!calls.get(name).contains(name), "8: " + name + " calls itself, and is not static");
             ask(deep <= 8, "8: " + name + " goes " + deep + " deep");
         }
     }
