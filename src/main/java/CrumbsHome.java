@@ -76,13 +76,9 @@ public final class CrumbsHome {
     private final Sheets sheets = new Sheets();
     private final int[] errors = new int[ERRORS + 1];
 
+    // THE TRACE is of the latest voice(), also of one that is PARTED.
     private final int[] trace = new int[MOST_TRACE];
     private int traced = 0;
-
-    // The BODIES of the VOICE that is being worked out: they become THE TRACE
-    // only if it isn't PARTED, for an ERROR changes nothing.
-    private final int[] begun = new int[MOST_TRACE];
-    private int begins = 0;
     private boolean parted = false;
 
     public CrumbsHome() {
@@ -308,13 +304,10 @@ public final class CrumbsHome {
 
     public int voice(int bit, int voice, int x) {
         if (!isBit(bit) || voice < 0 || voice >= VOICES) return error(BEYOND);
-        begins = 0;
+        traced = 0;
         parted = false;
         int said = say(bit, voice, now.harvest.kind[bit], x, 0);
-        if (parted) return error(PARTED);
-        System.arraycopy(begun, 0, trace, 0, begins);
-        traced = begins;
-        return said;
+        return parted ? error(PARTED) : said;
     }
 
     public int body(int i) {
@@ -560,7 +553,7 @@ public final class CrumbsHome {
         for (int i = 0; i < KINDS && k >= 0 && BODIES[k * VOICES + voice] == 0; i++) k = ABOVE[k];
         if (k < 0 || deep > MOST_DEEP) return 0;
         int body = BODIES[k * VOICES + voice];
-        if (begins < MOST_TRACE) begun[begins++] = body;
+        if (traced < MOST_TRACE) trace[traced++] = body;
         return sayBody(body, bit, ABOVE[k], x, deep + 1);
     }
 
@@ -586,6 +579,7 @@ public final class CrumbsHome {
         }
     }
 
+    /** PARTED is what voice() answers then, no more: what stands right of this is begun all the same. */
     private int partsOf(int x, int divisor) {
         if (divisor == 0) {
             parted = true;

@@ -51,8 +51,7 @@ final class Oracle {
 
         int parts(int x, List<Integer> t) {
             t.add(13);
-            if (m == k) throw new Refused(6);
-            return x / (m - k);
+            return m == k ? 0 : x / (m - k);
         }
     }
 
@@ -642,6 +641,8 @@ final class Oracle {
                 int x = a[2];
                 int said = a[1] == 0 ? c.walks(x, t) : a[1] == 1 ? c.warms(x, t) : a[1] == 2 ? c.sprouts(x, t) : c.parts(x, t);
                 trace = t;
+                // Every KIND's parts comes to BODY 13, and no other VOICE does.
+                if (a[1] == 3 && c.m == c.k) throw new Refused(6);
                 return said;
             case "body":
                 if (a[0] < 0 || a[0] >= Math.min(30, trace.size())) throw new Refused(2);

@@ -791,14 +791,33 @@ public final class PromiseTest {
         due("body(-1)", x.body(-1), NONE);
         due("body(30)", x.body(30), NONE);
         due("body(MAX)", x.body(MAX), NONE);
-        // An ERROR changes nothing: THE TRACE stays the one ahead.
-        due("PARTED", x.voice(0, 3, 3), PARTED);
-        traceIs(x, 51, 12, 11, 50, 20, 10);
+        // A voice() that is BEYOND begins no BODY: THE TRACE stays the one ahead.
         x.voice(0, 4, 3);
-        due("count(5)", x.count(5), 6);
+        x.voice(1, 0, 3);
+        traceIs(x, 51, 12, 11, 50, 20, 10);
         x.voice(0, 0, 3);
         traceIs(x, 50, 20, 10);
         due("told(2)", x.told(2), 7);
+        for (int km = 0; km < 70; km += 10) p27Parted(km);
+    }
+
+    /** THE TRACE of a PARTED voice() is its own, with what stands right of what is PARTED. */
+    private static void p27Parted(int km) {
+        CrumbsHome x = fresh();
+        x.bit(km, 0, 0);
+        x.voice(0, 2, 3);
+        due("PARTED", x.voice(0, 3, 3), PARTED);
+        if (km == 10) traceIs(x, 21, 13, 11, 20, 10);
+        else if (km == 40) traceIs(x, 21, 13, 11, 50, 20, 10);
+        else traceIs(x, 13);
+        x.image();
+        x.restore();
+        due("BEYOND", x.voice(0, 4, 3), BEYOND);
+        due("the latest that began", x.body(1), km == 10 || km == 40 ? 13 : NONE);
+        x.become(0, km + 5);
+        x.voice(0, 0, 3);
+        due("the one ahead is gone", x.body(0), km == 10 ? 20 : km == 40 ? 50 : km == 60 ? 70 : 10);
+        due("told(6)", x.told(6), 1);
     }
 
     private static void p28() {
