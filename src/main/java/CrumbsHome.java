@@ -547,8 +547,12 @@ public final class CrumbsHome {
 
     // ---- how a VOICE is worked out
 
-    /** A VOICE of one of BITS by the BODY that a KIND has of it, or the next KIND above. */
+    /**
+     * A VOICE of one of BITS by the BODY that a KIND has of it, or the next KIND above.
+     * Once it is PARTED it has come to its end: no further BODY begins.
+     */
     private int say(int bit, int voice, int from, int x, int deep) {
+        if (parted) return 0;
         int k = from;
         for (int i = 0; i < KINDS && k >= 0 && BODIES[k * VOICES + voice] == 0; i++) k = ABOVE[k];
         if (k < 0 || deep > MOST_DEEP) return 0;
@@ -579,7 +583,7 @@ public final class CrumbsHome {
         }
     }
 
-    /** PARTED is what voice() answers then, no more: what stands right of this is begun all the same. */
+    /** Where voice() is PARTED the number that this gives doesn't matter: nothing is answered of it. */
     private int partsOf(int x, int divisor) {
         if (divisor == 0) {
             parted = true;

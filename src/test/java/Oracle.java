@@ -51,7 +51,8 @@ final class Oracle {
 
         int parts(int x, List<Integer> t) {
             t.add(13);
-            return m == k ? 0 : x / (m - k);
+            if (m == k) throw new Refused(6);
+            return x / (m - k);
         }
     }
 
@@ -637,13 +638,11 @@ final class Oracle {
             case "voice":
                 Crumb c = one(a[0]);
                 in(a[1], 0, 3);
+                // What has begun stays in THE TRACE, also if what is PARTED breaks off the rest.
                 List<Integer> t = new ArrayList<>();
-                int x = a[2];
-                int said = a[1] == 0 ? c.walks(x, t) : a[1] == 1 ? c.warms(x, t) : a[1] == 2 ? c.sprouts(x, t) : c.parts(x, t);
                 trace = t;
-                // Every KIND's parts comes to BODY 13, and no other VOICE does.
-                if (a[1] == 3 && c.m == c.k) throw new Refused(6);
-                return said;
+                int x = a[2];
+                return a[1] == 0 ? c.walks(x, t) : a[1] == 1 ? c.warms(x, t) : a[1] == 2 ? c.sprouts(x, t) : c.parts(x, t);
             case "body":
                 if (a[0] < 0 || a[0] >= Math.min(30, trace.size())) throw new Refused(2);
                 return trace.get(a[0]);

@@ -801,14 +801,13 @@ public final class PromiseTest {
         for (int km = 0; km < 70; km += 10) p27Parted(km);
     }
 
-    /** THE TRACE of a PARTED voice() is its own, with what stands right of what is PARTED. */
+    /** THE TRACE of a PARTED voice() is its own, and ends with what is PARTED. */
     private static void p27Parted(int km) {
         CrumbsHome x = fresh();
         x.bit(km, 0, 0);
         x.voice(0, 2, 3);
         due("PARTED", x.voice(0, 3, 3), PARTED);
-        if (km == 10) traceIs(x, 21, 13, 11, 20, 10);
-        else if (km == 40) traceIs(x, 21, 13, 11, 50, 20, 10);
+        if (km == 10 || km == 40) traceIs(x, 21, 13);
         else traceIs(x, 13);
         x.image();
         x.restore();
@@ -818,6 +817,10 @@ public final class PromiseTest {
         x.voice(0, 0, 3);
         due("the one ahead is gone", x.body(0), km == 10 ? 20 : km == 40 ? 50 : km == 60 ? 70 : 10);
         due("told(6)", x.told(6), 1);
+        x.voice(0, 3, 3);
+        if (km == 10) traceIs(x, 21, 13, 11, 20, 10);
+        else if (km == 40) traceIs(x, 21, 13, 11, 50, 20, 10);
+        else traceIs(x, 13);
     }
 
     private static void p28() {
