@@ -1,8 +1,15 @@
+import com.sun.source.tree.ArrayAccessTree;
 import com.sun.source.tree.AssertTree;
+import com.sun.source.tree.AssignmentTree;
+import com.sun.source.tree.BinaryTree;
+import com.sun.source.tree.BlockTree;
 import com.sun.source.tree.ClassTree;
 import com.sun.source.tree.CompilationUnitTree;
+import com.sun.source.tree.CompoundAssignmentTree;
+import com.sun.source.tree.ExpressionTree;
 import com.sun.source.tree.ImportTree;
 import com.sun.source.tree.LambdaExpressionTree;
+import com.sun.source.tree.LiteralTree;
 import com.sun.source.tree.MemberReferenceTree;
 import com.sun.source.tree.MethodInvocationTree;
 import com.sun.source.tree.MethodTree;
@@ -10,7 +17,9 @@ import com.sun.source.tree.NewArrayTree;
 import com.sun.source.tree.NewClassTree;
 import com.sun.source.tree.SynchronizedTree;
 import com.sun.source.tree.ThrowTree;
+import com.sun.source.tree.Tree;
 import com.sun.source.tree.TryTree;
+import com.sun.source.tree.UnaryTree;
 import com.sun.source.tree.VariableTree;
 import com.sun.source.util.JavacTask;
 import com.sun.source.util.TreePath;
@@ -49,6 +58,11 @@ public final class LanguageTest {
     private static final Set<String> LIBRARY = Set.of(
         "java.lang.Object.<init>", "java.lang.System.arraycopy", "java.lang.Math.max", "java.lang.Math.min",
         "java.lang.Integer.bitCount", "java.lang.String.indexOf", "java.lang.String.charAt", "java.lang.String.length");
+
+    private static final Set<String> TYPES = Set.of(
+        "int", "int[]", "long", "boolean", "java.lang.String", "CrumbsHome.World", "CrumbsHome.Harvest",
+        "CrumbsHome.Roads", "CrumbsHome.Law", "CrumbsHome.Reader", "CrumbsHome.Sheets");
+    private static final Set<String> OBJECTS_OWN = Set.of("equals", "hashCode", "toString", "finalize");
 
     private static int wrong = 0;
     private static int classes = 0;
@@ -116,6 +130,7 @@ public final class LanguageTest {
             long last = line(trees.getSourcePositions().getEndPosition(unit, t));
             ask(last - first < 60, "11: " + e + " has " + (last - first + 1) + " lines");
             ask(t.getParameters().size() <= 7, "11: " + e + " takes at most seven parameters");
+            ask(!OBJECTS_OWN.contains(e.getSimpleName().toString()), "6: " + e);
             if (!e.getModifiers().contains(Modifier.PUBLIC)) privates.add(e.getSimpleName().toString());
             method = nameOf(e);
             makesOnce = e.getKind() == ElementKind.CONSTRUCTOR;
@@ -131,6 +146,7 @@ public final class LanguageTest {
             Element e = element();
             boolean loose = e.getModifiers().contains(Modifier.STATIC) && !e.getModifiers().contains(Modifier.FINAL);
             ask(!loose, "5: " + e + " is final");
+            ask(TYPES.contains(e.asType().toString()), "3: " + e + " is of " + e.asType());
             return super.visitVariable(t, v);
         }
 
@@ -143,8 +159,62 @@ public final class LanguageTest {
             return super.visitMethodInvocation(t, v);
         }
 
-        private long at(com.sun.source.tree.Tree t) {
+        private long at(Tree t) {
             return line(trees.getSourcePositions().getStartPosition(unit, t));
+        }
+
+        private boolean isText(ExpressionTree t) {
+            return trees.getTypeMirror(new TreePath(getCurrentPath(), t)).toString().equals("java.lang.String");
+        }
+
+        @Override
+        public Void visitBinary(BinaryTree t, Void v) {
+            boolean text = isText(t.getLeftOperand()) || isText(t.getRightOperand());
+            ask(!text, "6 and 10: " + t.getKind() + " of texts at line " + at(t));
+            return super.visitBinary(t, v);
+        }
+
+        @Override
+        public Void visitBlock(BlockTree t, Void v) {
+            boolean initialiser = getCurrentPath().getParentPath().getLeaf() instanceof ClassTree;
+            ask(!initialiser, "5: an initialiser block at line " + at(t));
+            return super.visitBlock(t, v);
+        }
+
+        /** A row that is written out in a class is never changed. */
+        private void askChanged(ExpressionTree changed) {
+            if (!(changed instanceof ArrayAccessTree)) return;
+            TreePath row = new TreePath(new TreePath(getCurrentPath(), changed), ((ArrayAccessTree) changed).getExpression());
+            Element e = trees.getElement(row);
+            ask(e != null && !e.getModifiers().contains(Modifier.STATIC), "5: " + e + " is changed at line " + at(changed));
+        }
+
+        @Override
+        public Void visitAssignment(AssignmentTree t, Void v) {
+            askChanged(t.getVariable());
+            return super.visitAssignment(t, v);
+        }
+
+        @Override
+        public Void visitCompoundAssignment(CompoundAssignmentTree t, Void v) {
+            askChanged(t.getVariable());
+            ask(!isText(t.getVariable()), "10: texts joined at line " + at(t));
+            return super.visitCompoundAssignment(t, v);
+        }
+
+        @Override
+        public Void visitUnary(UnaryTree t, Void v) {
+            boolean changes = t.getKind().name().endsWith("CREMENT");
+            if (changes) askChanged(t.getExpression());
+            return super.visitUnary(t, v);
+        }
+
+        @Override
+        public Void visitLiteral(LiteralTree t, Void v) {
+            if (t.getValue() instanceof String) {
+                for (char c : ((String) t.getValue()).toCharArray()) ask(c >= 1 && c <= 127, "4: a sign at line " + at(t));
+            }
+            return super.visitLiteral(t, v);
         }
 
         @Override
